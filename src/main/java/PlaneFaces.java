@@ -307,9 +307,13 @@ public final class PlaneFaces {
 
         /** Of two halves that leave a point with back: whether one who turns clockwise from back meets g first. */
         boolean sooner(int back, int g, int h) {
-            int turnG = Long.signum(turn(back, g));
-            int turnH = Long.signum(turn(back, h));
-            return turnG == turnH ? turn(g, h) < 0 : turnG < turnH;
+            int sideG = signOf(turn(back, g));
+            int sideH = signOf(turn(back, h));
+            return sideG == sideH ? turn(g, h) < 0 : sideG < sideH;
+        }
+
+        private static int signOf(long value) {
+            return value < 0 ? -1 : value > 0 ? 1 : 0;
         }
 
         /** The part of a half in twice the area to the left of its round. */
@@ -534,9 +538,7 @@ public final class PlaneFaces {
         int size = 1;
 
         void settle() {
-            for (int r = 0; r < rounds.size; r++) {
-                home[r] = rounds.twice[r] > 0 ? r : homeOfPiece(rounds.start[r]);
-            }
+            findHomes();
             numberFaces();
             for (int r = 0; r < rounds.size; r++) {
                 if (home[r] != r) {
@@ -545,9 +547,13 @@ public final class PlaneFaces {
             }
         }
 
-        /** All of a piece lies in one face of the others, so one of its points tells which. */
-        private int homeOfPiece(int half) {
-            return rounds.enclosing(segments.x[half], segments.y[half], rounds.pieceOf[half >> 1]);
+        /** All of a piece lies in one face of the others, so any of its points tells where it is at home. */
+        private void findHomes() {
+            for (int r = 0; r < rounds.size; r++) {
+                int half = rounds.start[r];
+                home[r] = rounds.twice[r] > 0 ? r
+                    : rounds.enclosing(segments.x[half], segments.y[half], rounds.pieceOfRound(r));
+            }
         }
 
         private void numberFaces() {

@@ -153,7 +153,9 @@ public final class ChangesTest {
         PlaneFaces p = new PlaneFaces();
         Shapes.square(p, 0, 0, 10);
         p.remove(0);
+        CHECK.equal("ends before clear", 4, p.count(1));
         CHECK.equal("clear", 3, p.clear());
+        CHECK.equal("ends after clear", 0, p.count(1));
         CHECK.equal("clear again", 0, p.clear());
         CHECK.equal("segments after clear", 0, p.count(0));
         CHECK.equal("faces after clear", 1, p.count(2));
