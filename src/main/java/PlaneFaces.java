@@ -161,7 +161,9 @@ public final class PlaneFaces {
     private void refresh() {
         if (stale) {
             rounds.trace();
-            faces.settle();
+            faces.findHomes();
+            faces.numberFaces();
+            faces.findOutsides();
             stale = false;
         }
     }
@@ -537,18 +539,8 @@ public final class PlaneFaces {
         private final int[] steps = new int[HALVES + 1];
         int size = 1;
 
-        void settle() {
-            findHomes();
-            numberFaces();
-            for (int r = 0; r < rounds.size; r++) {
-                if (home[r] != r) {
-                    outside[rounds.pieceOfRound(r)] = faceOf[rounds.start[r]];
-                }
-            }
-        }
-
         /** All of a piece lies in one face of the others, so any of its points tells where it is at home. */
-        private void findHomes() {
+        void findHomes() {
             for (int r = 0; r < rounds.size; r++) {
                 int half = rounds.start[r];
                 home[r] = rounds.twice[r] > 0 ? r
@@ -556,7 +548,7 @@ public final class PlaneFaces {
             }
         }
 
-        private void numberFaces() {
+        void numberFaces() {
             Arrays.fill(number, 0);
             size = 1;
             for (int h = 0; h < HALVES; h++) {
@@ -569,6 +561,14 @@ public final class PlaneFaces {
                     faceOf[h] = faceWithin(round);
                 } else {
                     faceOf[h] = NONE;
+                }
+            }
+        }
+
+        void findOutsides() {
+            for (int r = 0; r < rounds.size; r++) {
+                if (home[r] != r) {
+                    outside[rounds.pieceOfRound(r)] = faceOf[rounds.start[r]];
                 }
             }
         }

@@ -3,6 +3,7 @@ import java.util.function.Supplier;
 /** Counts the answers that are not the ones that are due, and ends a test by them. */
 final class Check {
     private final String test;
+    private String sentence = "";
     private int made = 0;
     private int wrong = 0;
 
@@ -14,8 +15,23 @@ final class Check {
         made++;
         if (!due.equals(got)) {
             wrong++;
-            System.out.println(test + ": " + call + " answered " + got + ", due is " + due);
+            System.out.println(test + ": " + sentence + call + " answered " + got + ", due is " + due);
         }
+    }
+
+    /** The test of one sentence of the document; one that asks nothing or breaks off counts as wrong. */
+    void sentence(String words, Runnable sentenceTest) {
+        sentence = "\"" + words + "\": ";
+        int before = made;
+        try {
+            sentenceTest.run();
+        } catch (RuntimeException | AssertionError e) {
+            equal("the sentence's test", "an end", "with " + e);
+        }
+        if (made == before) {
+            equal("the sentence's test", "some answers", "none");
+        }
+        sentence = "";
     }
 
     /** What a call answers, or the name of what it throws. */
