@@ -131,7 +131,8 @@ public final class ChangesBoundaryTest {
             p.remove(59);
             CHECK.equal("across segment " + s, PlaneFaces.NONE, p.add(10 * s, 5, 10 * s + 5, 0));
             int[] beyond = s == 58 ? ends(572, 3) : ends(10 * s + 13, 2);
-            CHECK.equal("from an end of it across another one", PlaneFaces.NONE, p.add(10 * s, 0, beyond[0], beyond[1]));
+            CHECK.equal("from an end of it across another one", PlaneFaces.NONE,
+                p.add(10 * s, 0, beyond[0], beyond[1]));
             CHECK.equal("with room beside all", 59, p.add(10 * s, 5, 10 * s + 5, 6));
         }
     }

@@ -154,6 +154,11 @@ public final class FacesBoundaryTest {
         frame.add(-16000, -16000, 16000, 16000);
         CHECK.equal("area(1) of its upper half", 1024000000, frame.area(1));
         CHECK.equal("area(2) of its lower half", 1024000000, frame.area(2));
+        PlaneFaces less = new PlaneFaces();
+        Shapes.path(less, -16000, -16000, 16000, -16000, 16000, 15999, 15999, 16000, -16000, 16000, -16000, -16000);
+        CHECK.equal("area(1) of the frame less a corner", 2047999999, less.area(1));
+        Shapes.path(less, 16000, 15999, 16000, 16000, 15999, 16000);
+        CHECK.equal("area(2) of the corner", 1, less.area(2));
     }
 
     private static void areaWithHoles() {
@@ -384,10 +389,33 @@ public final class FacesBoundaryTest {
             CHECK.equal("across to number " + i + " of a row, by face 0", due[i],
                 row.across(first, row.locate(10 * i + 5, 5)));
         }
-        Shapes.path(row, -100, -100, 200, -100, 200, 100, -100, 100, -100, -100);
+        Shapes.square(row, -100, -100, 300);
         CHECK.equal("across from a row to face 0 beyond a square", 2, row.across(row.locate(45, 5), 0));
         row.add(0, 0, -100, -100);
         CHECK.equal("the same with a bridge", 2, row.across(row.locate(45, 5), 0));
+        wallOf(0);
+        wallOf(6);
+        wallOf(59);
+        PlaneFaces most = new PlaneFaces();
+        Shapes.most(most);
+        CHECK.equal("across from the outside to the middle of forty faces", 1 + 2 * 6, most.across(0, 1));
+    }
+
+    /** Two squares with one side in common, which bears this number. */
+    private static void wallOf(int number) {
+        PlaneFaces p = new PlaneFaces();
+        for (int s = 0; s < number; s++) {
+            Shapes.path(p, 10 * s, 0, 10 * s + 5, 5);
+        }
+        Shapes.path(p, 100, 50, 100, 60);
+        for (int s = 0; s < number; s++) {
+            p.remove(s);
+        }
+        Shapes.path(p, 100, 60, 90, 60, 90, 50, 100, 50, 110, 50, 110, 60, 100, 60);
+        CHECK.equal("x where wall " + number + " begins", 100, p.begins(2 * number, false));
+        CHECK.equal("across wall " + number, 1, p.across(p.locate(95, 55), p.locate(105, 55)));
+        p.remove(number);
+        CHECK.equal("faces without wall " + number, 2, p.count(2));
     }
 
     private static void toItself() {

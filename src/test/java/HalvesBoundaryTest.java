@@ -22,7 +22,7 @@ public final class HalvesBoundaryTest {
         CHECK.end();
     }
 
-    /** What count answers: of none, sixty apart, sixty at one end, a ring of sixty, a wheel, twenty triangles, a medley. */
+    /** What count answers of none, sixty apart, the star, the ring, the wheel, the triangles and the medley. */
     private static void counted(int what, int... due) {
         PlaneFaces[] planes = new PlaneFaces[7];
         for (int i = 0; i < 7; i++) {
@@ -68,6 +68,15 @@ public final class HalvesBoundaryTest {
         CHECK.equal("count(1) when an end is gone with its segment", 2, p.count(1));
         p.add(-1, 0, 1, -1);
         CHECK.equal("count(1) with two that have but one coordinate in common", 4, p.count(1));
+        PlaneFaces q = new PlaneFaces();
+        q.add(0, 16000, 1, -16000);
+        q.add(-16000, 0, -16000, -1);
+        q.add(2, 1, 16000, 0);
+        q.add(1, 0, 1, 2);
+        q.add(-1, -2, -2, -1);
+        CHECK.equal("count(0) with ends that are much alike", 5, q.count(0));
+        CHECK.equal("count(1) with ends that are much alike", 10, q.count(1));
+        CHECK.equal("count(3) with ends that are much alike", 5, q.count(3));
     }
 
     private static void faces() {
@@ -85,6 +94,16 @@ public final class HalvesBoundaryTest {
         CHECK.equal("count(2) with a bridge to it", 4, p.count(2));
         p.add(2, 1, 10, 0);
         CHECK.equal("count(2) with another bridge to it", 5, p.count(2));
+        PlaneFaces most = new PlaneFaces();
+        Shapes.most(most);
+        CHECK.equal("count(2), the most there can be", 40, most.count(2));
+        CHECK.equal("count(5) of it", 40, most.count(5));
+        int sum = 0;
+        for (int face = 1; face < 40; face++) {
+            sum += most.area(face);
+        }
+        CHECK.equal("sum of its areas", 500 * 7 * 7, sum);
+        CHECK.outOfBounds("area(40) of it", () -> most.area(40));
     }
 
     private static void pieces() {

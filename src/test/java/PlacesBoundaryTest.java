@@ -46,7 +46,8 @@ public final class PlacesBoundaryTest {
         located("a step outside it", p, 0, -1, -1, 5, -1, 11, -1, 11, 5, 11, 11, 5, 11, -1, 11, -1, 5);
         PlaneFaces frame = new PlaneFaces();
         Shapes.square(frame, -16000, -16000, 32000);
-        located("a step within the bounds' frame", frame, 1, 15999, 15999, -15999, -15999, 15999, -15999, -15999, 15999);
+        located("a step within the bounds' frame", frame, 1, 15999, 15999, -15999, -15999, 15999, -15999,
+            -15999, 15999);
         located("in the middle of it", frame, 1, 0, 0);
         PlaneFaces slope = new PlaneFaces();
         Shapes.path(slope, 16000, 15999, -16000, -16000, 16000, -16000, 16000, 15999, 16000, 16000, -16000, 16000,
@@ -224,6 +225,18 @@ public final class PlacesBoundaryTest {
         roofed("three by a hair", q, 2, 0, -16000, -16000, 15997, 15999, 15998);
         roofed("two by a hair", q, 1, -16000, 15998);
         roofed("the last one", q, 0, -16000, 15999, 0, 15999, 15999, 15999);
+        for (int low : new int[] {15999, 1, 0, -1, -2, -15999}) {
+            PlaneFaces hair = new PlaneFaces();
+            hair.add(-16000, low, 15999, low + 1);
+            hair.add(-16000, low, 16000, low + 1);
+            roofed("two at " + low + ", the second one below the first by a hair", hair, 1, -15999, low, 15999, low,
+                0, -16000);
+            PlaneFaces turned = new PlaneFaces();
+            turned.add(16000, low + 1, -16000, low);
+            turned.add(15999, low + 1, -16000, low);
+            roofed("two at " + low + ", the first one below the second by a hair", turned, 0, -15999, low, 15999, low,
+                0, -16000);
+        }
         PlaneFaces r = new PlaneFaces();
         r.add(0, 10, 3, 11);
         r.add(1, 11, 4, 10);

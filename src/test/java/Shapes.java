@@ -74,6 +74,25 @@ final class Shapes {
         }
     }
 
+    /** As many faces as sixty segments can have, forty: seven triangles around (0, 0) and triangles between them. */
+    static void most(PlaneFaces plane) {
+        int[] x = {-10, 10, 0};
+        int[] y = {-10, -10, 15};
+        for (int i = 0; i < 3; i++) {
+            path(plane, 0, 0, x[i], y[i]);
+        }
+        for (int t = 1; t <= 7; t++) {
+            for (int i = 0; i < 3; i++) {
+                int j = (i + 1) % 3;
+                path(plane, t * x[i], t * y[i], t * x[j], t * y[j]);
+                if (t < 7) {
+                    path(plane, t * x[i], t * y[i], (t + 1) * x[i], (t + 1) * y[i]);
+                    path(plane, t * x[i], t * y[i], (t + 1) * x[j], (t + 1) * y[j]);
+                }
+            }
+        }
+    }
+
     /**
      * Two squares within one another, the outer one with a tail to its inside and one to its outside, a triangle within
      * the inner one, a square apart, a free number between, and a segment by itself in each of two faces.
