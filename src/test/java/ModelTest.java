@@ -1,9 +1,9 @@
 /** All promises: long runs of calls, drawn by a fixed rule, answered by the class and by the slab model alike. */
 public final class ModelTest {
     private static final Check CHECK = new Check("ModelTest");
-    /** Half the width of the field, and how far apart its points are. */
-    private static final int[][] FIELDS = {{2, 1}, {4, 1}, {6, 1}, {8, 2000}, {16, 1000}, {16000, 1}, {40, 400},
-        {100, 1}};
+    /** Half the width of the field, how far apart its points are, and whether they crowd at its middle and rim. */
+    private static final int[][] FIELDS = {{2, 1, 0}, {4, 1, 0}, {6, 1, 0}, {8, 2000, 0}, {16, 1000, 0}, {16000, 1, 0},
+        {40, 400, 0}, {100, 1, 0}, {16000, 1, 1}};
 
     /** Closed paths: a square, a diamond, a triangle, an arrow, a star. */
     private static final int[][] LOOPS = {{-4, -4, 4, -4, 4, 4, -4, 4}, {0, -4, 4, 0, 0, 4, -4, 0}, {-4, -3, 4, -4, 0, 4},
@@ -14,6 +14,7 @@ public final class ModelTest {
     private int loopAt = 0;
     private final int half;
     private final int pitch;
+    private final boolean crowded;
     /** How many of 512 later calls are adds, and how many of 100 adds begin a closed path. */
     private final int adds;
     private final int loops;
@@ -27,6 +28,7 @@ public final class ModelTest {
         int[] field = FIELDS[seed % FIELDS.length];
         half = field[0];
         pitch = field[1];
+        crowded = field[2] == 1;
         adds = 60 + 100 * (seed / FIELDS.length % 3);
         loops = 30 * (seed / FIELDS.length % 4);
         removes = 12 + 30 * (seed / FIELDS.length % 5);
@@ -48,7 +50,11 @@ public final class ModelTest {
         return (int) ((state >>> 33) % bound);
     }
 
+    /** In a crowded field the segments between its points are long and lie closely side by side. */
     private int coordinate() {
+        if (crowded) {
+            return inField(half * (below(3) - 1) + below(7) - 3);
+        }
         return pitch * (below(2 * half + 1) - half);
     }
 
@@ -87,7 +93,7 @@ public final class ModelTest {
     private int[] shortSegment() {
         int ax = below(60) == 0 ? anyCoordinate() : coordinate();
         int ay = coordinate();
-        if (below(8) == 0) {
+        if (crowded || below(8) == 0) {
             return new int[] {ax, ay, coordinate(), coordinate()};
         }
         int reach = Math.max(1, half / 8);
